@@ -90,11 +90,17 @@ public final class ToldTracks {
     }
 
     public int sea() {
-        int statements = parser.readSea(spare, tape, tapeLength);
+        parser.open(spare, tape, tapeLength);
+        int statements = 0;
+        do {
+            parser.readStatement(statements == 0);
+            parser.reader.takeSign(';');
+            statements++;
+        } while (parser.reader.kind != Reader.END && statements < TAPE);
         tapeLength = 0;
         faultKind = parser.reader.fault;
         faultPlace = parser.reader.faultPlace;
-        if (statements == NONE) {
+        if (faultKind != 0) {
             refusals[1]++;
             return NONE;
         }
@@ -421,7 +427,8 @@ public final class ToldTracks {
         if (!isShip(ship) || what < 0 || what > 1) {
             return NONE;
         }
-        Track track = counted(ship);
+        Track track = tracks[ship];
+        track.countGaps();
         return what == 0 ? track.unsaidHours : track.gapCount;
     }
 
@@ -432,7 +439,8 @@ public final class ToldTracks {
     public int beyond() {
         int ships = 0;
         for (int s = 0; s < sea.shipCount; s++) {
-            if (counted(s).gapCount > 0 && chanceOf(s) * sea.shipCount < TOO_RARE) {
+            long chance = chanceOf(s);
+            if (tracks[s].gapCount > 0 && chance * sea.shipCount < TOO_RARE) {
                 ships |= 1 << s;
             }
         }
@@ -605,12 +613,6 @@ public final class ToldTracks {
         return tracks[ship];
     }
 
-    private Track counted(int ship) {
-        tracks[ship].settle();
-        tracks[ship].countGaps();
-        return tracks[ship];
-    }
-
     private int sayersOf(int ship) {
         Ship told = sea.ships[ship];
         int ships = 0;
@@ -623,8 +625,9 @@ public final class ToldTracks {
     }
 
     private int kindsOf(int ship) {
-        Track track = counted(ship);
+        Track track = tracks[ship];
         if (!track.kindsKnown) {
+            track.countGaps();
             track.kinds = track.ownKinds() | bit(sayersOf(ship) != 0) << NAME;
             track.kindsKnown = true;
         }
@@ -653,7 +656,8 @@ public final class ToldTracks {
     }
 
     private long chanceOf(int ship) {
-        Track track = counted(ship);
+        Track track = tracks[ship];
+        track.countGaps();
         int luck = sea.luck;
         int turns = track.hoursBetweenEnds();
         Arrays.fill(odds, 0L);
@@ -1051,7 +1055,8 @@ public final class ToldTracks {
                         return 0;
                     }
                     top--;
-                    pile[top - 1] = joined(step, pile[top - 1], pile[top]);
+                    long value = joined(step, pile[top - 1], pile[top]);
+                    pile[top - 1] = (int) Math.max(-LIMIT, Math.min(LIMIT, value));
                 }
             }
             return top > 0 ? pile[top - 1] : 0;
@@ -1072,14 +1077,14 @@ public final class ToldTracks {
             }
         }
 
-        private static int joined(int step, int a, int b) {
+        private static long joined(int step, long a, long b) {
             switch (step) {
                 case PLUS:
-                    return limited((long) a + b);
+                    return a + b;
                 case MINUS:
-                    return limited((long) a - b);
+                    return a - b;
                 case TIMES:
-                    return limited((long) a * b);
+                    return a * b;
                 case OVER:
                     return b == 0 ? 0 : Math.floorDiv(a, b);
                 case REST:
@@ -1099,10 +1104,6 @@ public final class ToldTracks {
                 default:
                     return a | b;
             }
-        }
-
-        private static int limited(long value) {
-            return (int) Math.max(-LIMIT, Math.min(LIMIT, value));
         }
     }
 
@@ -1359,21 +1360,14 @@ public final class ToldTracks {
             sea = into;
         }
 
-        /** How many statements; NONE with a fault, which the reader keeps. */
-        int readSea(Sea into, int[] text, int length) {
+        void open(Sea into, int[] text, int length) {
             sea = into;
             sea.clear();
             reader.open(text, length);
-            int statements = 0;
-            do {
-                readStatement(statements == 0);
-                reader.takeSign(';');
-                statements++;
-            } while (reader.kind != Reader.END && statements < TAPE);
-            return reader.fault == 0 ? statements : NONE;
         }
 
-        private void readStatement(boolean first) {
+        /** After a fault, which the reader keeps, there is no more to read. */
+        void readStatement(boolean first) {
             if (first != (reader.word == Reader.SIZE)) {
                 reader.refuse(1);
                 return;
@@ -1571,24 +1565,27 @@ public final class ToldTracks {
                 reader.step();
                 sea.formula.emit(1);
             } else {
-                readComparison(open);
+                readSum(open);
+                int step = takeComparison();
+                readSum(open);
+                sea.formula.emit(step);
             }
             if (denied) {
                 sea.formula.emit(Formula.NOT);
             }
         }
 
-        private void readComparison(int open) {
-            readSum(open);
-            int step = reader.isSign('<') ? Formula.BELOW : reader.isSign('>') ? Formula.ABOVE
-                    : Formula.ALIKE;
-            if (step == Formula.ALIKE) {
-                reader.takeSign('=');
-            } else {
+        private int takeComparison() {
+            if (reader.isSign('<')) {
                 reader.step();
+                return Formula.BELOW;
             }
-            readSum(open);
-            sea.formula.emit(step);
+            if (reader.isSign('>')) {
+                reader.step();
+                return Formula.ABOVE;
+            }
+            reader.takeSign('=');
+            return Formula.ALIKE;
         }
 
         private void readSum(int open) {
@@ -1934,7 +1931,6 @@ public final class ToldTracks {
             booksFit = layBooks() && line.holds(waters);
             markAlone();
             keptCount = 0;
-            Arrays.fill(kept, false);
             Arrays.fill(may, 0L);
             if (booksFit) {
                 keep(countChains());
@@ -1942,10 +1938,11 @@ public final class ToldTracks {
             }
         }
 
-        /** Marks each saying that by itself is sound and goes together with all books. */
+        /** Marks each saying that by itself is sound and goes together with all books; none is kept yet. */
         private void markAlone() {
             for (int i = 0; i < ship.count; i++) {
                 int place = ship.places[i];
+                kept[i] = false;
                 alone[i] = isSound(place, ship.laden[i]);
                 for (int book = 0; alone[i] && book < ship.bookCount; book++) {
                     int hours = ship.hoursToBook(ship.hours[i], book);
@@ -2132,6 +2129,7 @@ public final class ToldTracks {
                 return;
             }
             isCounted = true;
+            settle();
             unsaidHours = 0;
             gapCount = 0;
             for (int i = 0; i + 1 < ship.count; i++) {
