@@ -268,6 +268,10 @@ public final class PromiseTest {
         faultAt("size 3 4;quiet when [[[[((((1 !( ;", 1);
         faultAt("size 3 4;quiet when [[[[[[[[!max(1;".replace("!max(", "max!("), 5);
         told("size 3 4;quiet when [[[[((((1))))=min(1,2)]]]];");
+        told("size 3 4;quiet when [[[[[[min((1),2)=1]]]]]];");
+        told("size 3 4;quiet when [[[[[[min(1,(2))=1]]]]]];");
+        faultAt("size 3 4;quiet when [[[[[[[min(!(1),2)=1]]]]]]];", 5);
+        faultAt("size 3 4;quiet when [[[[[[[min(1,!(2))=1]]]]]]];", 5);
         told("size 3 4;" + many("luck 1;", 200));
     }
 
@@ -850,7 +854,17 @@ public final class PromiseTest {
         }
         due("41", y.spot(0, 0, 0, 0), -1);
         due("refusals", y.status(3), 6);
-        due("image, the longest", y.image(), 1 + 96 * 4 + 1 + 40 * 3 + 1);
+        int length = y.image();
+        due("image, the longest", length, 1 + 96 * 4 + 1 + 40 * 3 + 1);
+        int[] longest = new int[length];
+        for (int k = 0; k < length; k++) {
+            longest[k] = y.octet(k);
+        }
+        promise = 39;
+        ToldTracks z = told(FLAT + OWL + KITE + "ship c look 0 speed 1 draft 1 load 0;");
+        yes("the longest image", taken(z, longest));
+        due("sayings", z.has(3), 96);
+        due("sightings", z.has(5), 40);
     }
 
     private static int[] image(int... bytes) {
