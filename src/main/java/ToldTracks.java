@@ -1254,10 +1254,6 @@ public final class ToldTracks {
                 at++;
                 return;
             }
-            if (start == behind) {
-                refuseAt(1, start);
-                return;
-            }
             int most = kind == WORD ? LETTERS : DIGITS;
             for (; at < length && kindOf(text[at]) == kind; at++) {
                 if (at - start >= most) {
@@ -1266,6 +1262,10 @@ public final class ToldTracks {
                 }
                 value = kind == NUMBER ? value * 10 + text[at] - '0'
                         : value | text[at] - BEFORE_A << LETTER_BITS * (at - start);
+            }
+            if (start == behind) {
+                refuseAt(1, start);
+                return;
             }
             word = kind == WORD ? ownWord(value) : NONE;
         }
@@ -2089,7 +2089,7 @@ public final class ToldTracks {
         /** Puts what can't be in one set with those queued into the other; NONE if that fails. */
         private int pushApart(int from, int to) {
             int queued = to;
-            for (int k = from; k < queued; k++) {
+            for (int k = from; k < queued && k < HOURS; k++) {
                 int i = queue[k];
                 for (int j = 0; j < ship.count; j++) {
                     int hours = Math.abs(ship.hours[i] - ship.hours[j]);
@@ -2099,7 +2099,7 @@ public final class ToldTracks {
                     if (marks[j] == marks[i]) {
                         return NONE;
                     }
-                    if (marks[j] == 0) {
+                    if (marks[j] == 0 && queued < HOURS) {
                         marks[j] = 3 - marks[i];
                         queue[queued] = j;
                         queued++;

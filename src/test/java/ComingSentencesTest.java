@@ -179,6 +179,15 @@ public final class ComingSentencesTest {
         ToldTracks y = Sentences.told("size 16 16;" + Sentences.OWL + Sentences.says("owl", 0, 15, 15, 0));
         octets(y, Sentences.withCheck(1, 0, 0, 255, 0, 0));
 
+        StringBuilder eight = new StringBuilder(Sentences.FLAT);
+        for (int s = 0; s < 8; s++) {
+            eight.append(Sentences.ship("" + (char) ('a' + s), 0, 1, 1, 0));
+        }
+        ToldTracks z = Sentences.told(eight + Sentences.says("h", 9, 5, 3, 1) + Sentences.says("a", 8, 5, 3, 0));
+        octets(z, Sentences.withCheck(2, 0, 8, 23, 0, 7, 9, 23, 1, 0));
+        Sentences.yes("of eight ships", Sentences.takes(z, 1, 7, 9, 23, 1, 0));
+        octets(z, Sentences.withCheck(1, 7, 9, 23, 1, 0));
+
         Sentences.sentence(37, "how many SIGHTINGS; for each, as they came: LOOK, CELL, hour;");
         x = Sentences.told(THREE + Sentences.seen(3, 5, 3, 47) + owl(1, 0, 0) + Sentences.seen(0, 0, 0, 0));
         x.spot(3, 5, 3, 2);

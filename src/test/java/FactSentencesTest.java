@@ -72,6 +72,15 @@ public final class FactSentencesTest {
         Sentences.due("another hour", x.cell(3, 0, 1, 2), 0);
         Sentences.due("another hour", x.cell(2, 3, 46, 2), 0);
         Sentences.due("without any", Sentences.told("size 2 2;").cell(0, 0, 0, 2), 0);
+        // Asked twice, all along the rows, in hours that lie side by side.
+        x = Sentences.told("size 16 16;quiet when (row*16+column+hour*5)%7=3;");
+        for (int turn = 0; turn < 2; turn++) {
+            for (int hour = 20; hour < 23; hour++) {
+                for (int cell = 7; cell < 256; cell += 8) {
+                    Sentences.due("quiet " + cell, x.cell(cell % 16, cell / 16, hour, 2), (cell + hour * 5) % 7 == 3 ? 1 : 0);
+                }
+            }
+        }
         Sentences.due("not all of the last", Sentences.told("size 2 2;quiet when all;quiet when not all;").cell(0, 0, 0, 2), 1);
     }
 
@@ -116,6 +125,13 @@ public final class FactSentencesTest {
         x = Sentences.told("size 2 2;depth 39+column when all;" + Sentences.ship("a", 0, 1, 40, 0));
         Sentences.due("39", x.may(0, 0, 0, 0), 0);
         Sentences.due("40", x.may(0, 0, 1, 0), 1);
+        for (int row = 0; row < 16; row++) {
+            x = Sentences.told("size 16 16;depth 9 when row=" + row + ";" + Sentences.OWL);
+            Sentences.due("water of row " + row + " alone", x.reach(0, 0, -1), 16);
+            Sentences.due("along row " + row, x.far(0, 0, row, 15, row), 15);
+            Sentences.due("off row " + row, x.far(0, 0, row, 0, row == 0 ? 8 : row - 1), -1);
+            Sentences.due("to row " + row, x.far(0, 0, (row + 8) % 16, 0, row), -1);
+        }
 
         Sentences.sentence(11, "FAR for a SHIP from CELL to CELL: the fewest steps side by side (four) over its WATER / "
                 + "SPEED, rounded up: so many hours;");
@@ -372,6 +388,12 @@ public final class FactSentencesTest {
         Sentences.due("behind all", x.may(0, 19, 4, 2), 0);
         Sentences.due("far behind all", x.may(0, 47, 0, 0), 1);
         Sentences.due("without facts", Sentences.told(Sentences.FLAT + Sentences.OWL).reach(0, 0, -1), 24);
+        x = Sentences.told(Sentences.FLAT + Sentences.OWL + Sentences.says("owl", 1, 0, 0, 0) + Sentences.says("owl", 46, 5, 3, 0));
+        Sentences.due("in the first hour", x.reach(0, 0, -1), 3);
+        Sentences.due("in the last hour", x.reach(0, 47, -1), 3);
+        x = Sentences.told(Sentences.FLAT + Sentences.OWL + Sentences.says("owl", 0, 0, 0, 0) + Sentences.says("owl", 47, 5, 3, 0));
+        Sentences.due("behind the first hour", x.reach(0, 1, -1), 3);
+        Sentences.due("ahead of the last hour", x.reach(0, 46, -1), 3);
 
         Sentences.sentence(14, "(as a FACT of WATER; nowhere, if BOOKS alone do not FIT).");
         x = Sentences.told("size 16 2;depth 9-row when column<15;" + Sentences.ship("a", 0, 1, 8, 1)
@@ -394,6 +416,14 @@ public final class FactSentencesTest {
         Sentences.due("gaps", x.gaps(0, 1), 1);
         x.add(0, 6, 1, 0, false);
         Sentences.due("gaps", x.gaps(0, 1), 1);
+        // Any one cell of the sea is enough.
+        int[] cells = {0, 1, 15, 62, 63, 64, 65, 127, 128, 191, 192, 193, 254, 255};
+        for (int cell : cells) {
+            String quiet = "size 16 16;depth 9 when all;quiet when row*16+column=" + cell + ";" + Sentences.ship("owl", 1, 4, 5, 3);
+            x = Sentences.told(quiet + Sentences.says("owl", 4, 0, 0, 0) + Sentences.says("owl", 20, 0, 0, 0));
+            int far = (cell % 16 + cell / 16 + 3) / 4;
+            Sentences.due("cell " + cell, x.gaps(0, 1), far < 2 ? 0 : 2 * (far - 1));
+        }
         x = Sentences.told("size 6 4;depth 20 when row=0;quiet when row=1;quiet when hour=6;" + Sentences.OWL
                 + Sentences.says("owl", 4, 0, 0, 0) + Sentences.says("owl", 7, 0, 0, 0));
         Sentences.due("quiet land", x.gaps(0, 1), 1);

@@ -157,6 +157,7 @@ public final class MetSentencesTest {
             y.spot(k % 4, 0, 0, 0);
         }
         Sentences.due("forty", y.strange(), 40);
+        Sentences.due("nobody is there", y.doubted(), 0);
     }
 
     private static void doubted() {
@@ -179,6 +180,18 @@ public final class MetSentencesTest {
         Sentences.due("nothing said is not true, and explains it", x.doubted(), 0);
         Sentences.due("none seen", Sentences.told(three + a(5, 0, 0, 0)).doubted(), 0);
         Sentences.due("none of the look", Sentences.told(three + a(5, 0, 0, 0) + Sentences.seen(0, 5, 3, 5)).doubted(), 0);
+        for (int look = 0; look < 4; look++) {
+            x = Sentences.told(Sentences.FLAT + Sentences.ship("a", look, 1, 5, 0) + a(5, 0, 0, 0));
+            Sentences.due("none seen of look " + look, x.doubted(), 0);
+            x.spot((look + 1) % 4, 5, 3, 5);
+            Sentences.due("another than look " + look, x.doubted(), 0);
+            x.spot(look, 5, 3, 5);
+            Sentences.due("look " + look, x.doubted(), 1);
+            for (int k = 3; k <= 40; k++) {
+                x.spot(look, 0, 0, 5);
+            }
+            Sentences.due("look " + look + ", one of 40", x.doubted(), 1);
+        }
         StringBuilder eight = new StringBuilder(Sentences.FLAT + Sentences.seen(3, 5, 3, 5));
         for (int s = 0; s < 8; s++) {
             String name = "" + (char) ('a' + s);
@@ -225,6 +238,16 @@ public final class MetSentencesTest {
         Sentences.due("one less", x.gaps(0, 0), 45);
         x.drop(0, 0);
         Sentences.due("from the new first one on", x.gaps(0, 0), 26);
+        x.drop(0, 1);
+        Sentences.due("the last one went", x.gaps(0, 0), 0);
+        Sentences.due("the last one went", x.gaps(0, 1), 0);
+        x.add(0, 22, 0, 0, false);
+        Sentences.due("up to the new last one", x.gaps(0, 0), 1);
+        for (int hour = 0; hour < 48; hour++) {
+            x.add(0, hour, 0, 0, false);
+        }
+        Sentences.due("all 48", x.gaps(0, 0), 0);
+        Sentences.due("all 48", x.gaps(0, 1), 0);
 
         Sentences.sentence(27, "NONE if there is none such, or for others.");
         int[] others = {2, -1, LEAST, MOST};
@@ -354,6 +377,16 @@ public final class MetSentencesTest {
         Sentences.due("c too", x.settles(47, 1, 0), 3);
         x.drop(2, 0);
         Sentences.due("without c", x.settles(47, 1, 0), 2);
+        for (int wide = 1; wide < 4; wide++) {
+            x = Sentences.told("size 6 4;depth 20 when column<" + wide + " and row=3;" + Sentences.OWL + owl(5, 0, 3));
+            Sentences.due("water of so many cells: " + wide, x.settles(30, 0, 3), wide > 1 ? 1 : 0);
+        }
+        StringBuilder eight = new StringBuilder(Sentences.FLAT);
+        for (int s = 0; s < 8; s++) {
+            String name = "" + (char) ('a' + s);
+            eight.append(Sentences.ship(name, 3, 1, 5, 0)).append(Sentences.says(name, 0, 0, 0, 0));
+        }
+        Sentences.due("all eight", Sentences.told(eight.toString()).settles(1, 0, 0), 8);
         x = Sentences.told("size 6 4;depth 20 when column=3 and row=3;" + Sentences.OWL + owl(5, 3, 3));
         Sentences.due("one cell of water alone", x.settles(30, 3, 3), 0);
         x = Sentences.told(Sentences.FLAT + Sentences.OWL + owl(5, 0, 0) + Sentences.book("owl", 5, 3, 6, 6));
@@ -397,6 +430,30 @@ public final class MetSentencesTest {
         next(x, 30, 1, 2);
         x.drop(0, 0);
         next(x, 30, 1, 2);
+        // A cheaper one that settles less, ahead of it and behind it.
+        x = Sentences.told(sea + "cost 99 when column=1;");
+        stay(x, 0, 0, 0, 30, 30);
+        stay(x, 1, 2, 0, 30, 40);
+        next(x, 30, 1, 2);
+        x = Sentences.told(sea);
+        stay(x, 0, 0, 0, 40, 40);
+        stay(x, 1, 2, 0, 30, 40);
+        next(x, 40, 1, 2);
+        // Both are there in one hour, but on no cell together.
+        x = Sentences.told(sea + "cost 5 when not [column=0 and row=1];");
+        stay(x, 0, 0, 0, 30, 30);
+        stay(x, 1, 5, 3, 30, 30);
+        next(x, 30, 6, 1);
+        x = Sentences.told(sea + "cost 5 when not [column=5 and row=2];");
+        stay(x, 0, 0, 0, 30, 30);
+        stay(x, 1, 5, 3, 30, 30);
+        next(x, 30, 17, 1);
+        // Of three, two and two; on the first cell alone.
+        x = Sentences.told("size 6 4;depth 20 when row=0 or column=0;" + TWO + Sentences.ship("c", 0, 1, 2, 2)
+                + Sentences.book("a", 1, 0, 0, 29) + Sentences.book("a", 1, 0, 31, 47) + a(29, 1, 0, 0)
+                + Sentences.book("b", 0, 1, 0, 29) + Sentences.book("b", 0, 1, 31, 47) + b(29, 0, 1, 0)
+                + Sentences.book("c", 5, 0, 0, 29) + Sentences.book("c", 5, 0, 31, 47) + Sentences.says("c", 29, 5, 0, 0));
+        next(x, 30, 0, 2);
 
         Sentences.sentence(31, "of like ones with the least COST,");
         x = Sentences.told(sea + "cost 4 when column=2 and row=1;cost 5 when all;");
@@ -537,6 +594,18 @@ public final class MetSentencesTest {
         Sentences.due("c lies at any hour", x.whose(), 1 + 128);
         x.drop(0, 0);
         Sentences.due("a is silent", x.whose(), 128);
+        for (int d = 1; d <= 6; d++) {
+            x.drop(7, 0);
+            x.add(7, 17 - d, 0, 0, false);
+            Sentences.due("h, by " + d + " or less", x.whose(), 128);
+            x.drop(0, 0);
+            x.add(0, 7 + d, 0, 0, false);
+            Sentences.due("a, by " + -d + " or less", x.whose(), 128 + 1);
+            x.drop(0, 0);
+        }
+        x.drop(7, 0);
+        x.add(7, 17, 0, 0, false);
+        Sentences.due("h lies not", x.whose(), 0);
     }
 
     public static void main(String[] args) {

@@ -188,15 +188,15 @@ public final class OracleTest {
             if (!letter(c) && !digit(c)) {
                 return s.substring(at, at + 1);
             }
-            if (glued) {
-                throw new Bad(1, at);
-            }
             int e = at;
             while (e < s.length() && (letter(c) ? letter(s.charAt(e)) : digit(s.charAt(e)))) {
                 if (e - at == (letter(c) ? 6 : 4)) {
                     throw new Bad(1, e);
                 }
                 e++;
+            }
+            if (glued) {
+                throw new Bad(1, at);
             }
             return s.substring(at, e);
         }

@@ -46,6 +46,7 @@ public final class SeaSentencesTest {
         Sentences.due("beyond", x.beyond(), 0);
         Sentences.due("settles", x.settles(0, 0, 0), -1);
         Sentences.due("next", x.next(0), -1);
+        Sentences.due("NONE", ToldTracks.NONE, -1);
         Sentences.due("off", x.off(0), 100);
         Sentences.due("whose", x.whose(), 0);
         Sentences.due("add", x.add(0, 0, 0, 0, false), -1);
@@ -153,6 +154,7 @@ public final class SeaSentencesTest {
         Sentences.due("a ship of the same name has no sayings", x.ship(0, 4), 0);
         Sentences.due("and no books", x.ship(0, 7), 0);
         Sentences.due("and may be anywhere", x.reach(0, 7, -1), 6);
+        seasInTurn();
 
         Sentences.sentence(4, "NONE with a FAULT (all stays;");
         String other = "size 9 9;depth 1 when all;cost 2 when all;quiet when all;luck 77;"
@@ -204,6 +206,56 @@ public final class SeaSentencesTest {
         Sentences.tell(w, "size 2");
         for (int k = 0; k < 5; k++) {
             Sentences.due("with a fault, status " + k, w.status(k), k == 1 ? 2 : status[k]);
+        }
+    }
+
+    /** Some of what is reckoned once and then kept. */
+    private static void touch(ToldTracks x) {
+        for (int hour = 0; hour < 3; hour++) {
+            x.cell(1, 1, hour, 2);
+        }
+        x.cell(1, 1, 0, 1);
+        x.next(0);
+        x.strange();
+        for (int s = 0; s < 2; s++) {
+            x.tale(s, 0);
+            x.reach(s, 10, -1);
+            x.off(s);
+        }
+    }
+
+    /** After any two seas the third one is as if it were told to a new object. */
+    private static void seasInTurn() {
+        String[] seas = {RICH,
+            "size 3 16;depth column*3+row when not row=4;cost row when all;" + Sentences.ship("b", 2, 1, 3, 0)
+                    + Sentences.says("b", 10, 1, 1, 0) + Sentences.says("b", 12, 2, 2, 1) + Sentences.seen(2, 1, 1, 11)
+                    + Sentences.seen(2, 1, 9, 11),
+            "size 16 3;depth 9 when column%5<4;quiet when hour=1 and row=1;luck 0;" + Sentences.ship("owl", 3, 4, 9, 0)
+                    + Sentences.ship("kit", 2, 1, 1, 1) + Sentences.says("owl", 9, 1, 1, 0) + Sentences.says("owl", 11, 3, 2, 0)
+                    + Sentences.book("owl", 2, 2, 3, 4) + Sentences.book("kit", 2, 2, 3, 4) + Sentences.book("kit", 2, 1, 4, 4)
+                    + Sentences.says("kit", 9, 5, 1, 0),
+            "size 6 4;depth 20 when row<2;" + Sentences.ship("a", 1, 1, 5, 3) + Sentences.ship("b", 2, 3, 8, 4)
+                    + Sentences.ship("c", 3, 1, 8, 4) + Sentences.says("a", 7, 0, 0, 0) + Sentences.says("b", 1, 5, 0, 0),
+            "size 2 2;"};
+        for (int first = 0; first < seas.length; first++) {
+            for (int second = 0; second < seas.length; second++) {
+                for (int third = 0; third < seas.length; third++) {
+                    ToldTracks x = Sentences.told(seas[first]);
+                    touch(x);
+                    Sentences.tell(x, seas[second]);
+                    touch(x);
+                    Sentences.tell(x, seas[third]);
+                    Sentences.same("seas " + first + ", " + second + ", " + third, Sentences.answers(x),
+                            Sentences.answers(Sentences.told(seas[third])));
+                }
+            }
+        }
+        String sums = "size 2 2;" + many("depth 1" + many("+1", 68) + " when column=1;", 11) + "depth 2 when all;";
+        ToldTracks x = Sentences.told(sums);
+        for (int turn = 0; turn < 4; turn++) {
+            Sentences.due("again and again", Sentences.tell(x, sums), 13);
+            Sentences.due("again and again", x.cell(0, 0, 0, 0), 2);
+            Sentences.due("again and again", x.cell(1, 0, 0, 0), 69);
         }
     }
 
@@ -562,6 +614,9 @@ public final class SeaSentencesTest {
         holds("min(0-3,2)=0-3 and max(0-3,0-2)=0-2", true);
         holds("max(min(column,row),min(hour,depth))=5", true);
         holds("min(1+1,9)*max(row,4)+1=9", true);
+        // As much as can wait for what is in brackets: 3, 7, 15, and 19 from then on.
+        holds("not all or not all and 0=1 or all and 19=1+2*" + many("min(9,1+2*", 7) + "min(9,1)" + many(")", 7), true);
+        holds("not all or all and [" + many("not all or all and [", 6) + "9-2*(7-2)=0-1" + many("]", 7), true);
         refused("(!)=1;");
         refused("(1!=1;");
         refused("min!=1;");
@@ -741,6 +796,11 @@ public final class SeaSentencesTest {
         Sentences.faultAt(sea + "luck 0000!000000000;", 1);
         Sentences.faultAt("size 3 4 abcdef!g;", 1);
         Sentences.faultAt("size 3 !abcdef;", 1);
+        // Not even a blank that lacks ahead of it counts.
+        Sentences.faultAt("size1234!5 4;", 1);
+        Sentences.faultAt("size 3abcdef!g;", 1);
+        Sentences.faultAt("size!1234 4;", 1);
+        Sentences.faultAt("size 3!abcdef;", 1);
         Sentences.faultAt("size 3 4;!1234;", 1);
         Sentences.bad("size 3 4;" + many("a", 1700), 1, 15);
         Sentences.bad("size 3 4;" + many("1", 1700), 1, 13);
@@ -805,6 +865,12 @@ public final class SeaSentencesTest {
         Sentences.faultAt("size 3 4;quiet when [[[[[[[[!(1)=1", 5);
         Sentences.faultAt("size 3 4;quiet when [[[[[[[[min!(1,2)=1", 5);
         Sentences.faultAt("size 3 4;quiet when [[[[[[[min(1,!(2))=1", 5);
+        Sentences.faultAt("size 3 4;quiet when [[[[[[[min(!(2),1)=1", 5);
+        Sentences.good("size 3 4;quiet when " + many("min(", 8) + "1" + many(",2)", 8) + "=1;", 2);
+        Sentences.good("size 3 4;quiet when " + many("max(2,", 8) + "1" + many(")", 8) + "=2;", 2);
+        Sentences.bad("size 3 4;quiet when " + many("min(", 9) + "1" + many(",2)", 9) + "=1;", 5, 20 + 8 * 4 + 3);
+        Sentences.bad("size 3 4;quiet when " + many("max(2,", 9) + "1" + many(")", 9) + "=2;", 5, 20 + 8 * 6 + 3);
+        Sentences.good("size 3 4;quiet when " + many("min((1),max((2),", 3) + "((3))" + many("))", 3) + "=1;", 2);
         Sentences.good("size 3 4;quiet when [[[[[[[min(1,2)=1]]]]]]];", 2);
         Sentences.good("size 3 4;quiet when [[[[[[max((1)-(1),2)=1]]]]]];", 2);
         Sentences.good("size 3 4;quiet when " + many("[[[[((((1))))=1]]]] and ", 9) + "[[[[[[[[all]]]]]]]];", 2);

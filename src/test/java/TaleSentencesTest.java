@@ -124,6 +124,13 @@ public final class TaleSentencesTest {
         judge(sea + owl(9, 0, 0) + owl(20, 0, 0) + Sentences.book("owl", 5, 0, 11, 11), 3, 1);
         judge(sea + owl(9, 0, 0) + owl(13, 0, 0) + owl(30, 0, 0) + Sentences.book("owl", 5, 0, 11, 11), 3, 1);
         judge(sea + owl(9, 0, 0) + owl(13, 5, 3) + owl(30, 0, 0) + Sentences.book("owl", 0, 3, 11, 11), 3, 0);
+        // What the book bars has to go into the second set, and what goes not with that into the first.
+        judge(sea + owl(10, 0, 0) + owl(11, 3, 0) + owl(12, 1, 0) + Sentences.book("owl", 3, 0, 13, 13), 3, 1);
+        judge(sea + owl(9, 0, 0) + owl(20, 0, 0) + Sentences.book("owl", 5, 0, 20, 20), 3, 1);
+        // Two that can be parted, and three that can't.
+        judge(sea + JUMP + owl(30, 0, 0) + owl(31, 5, 0) + owl(32, 0, 3), 3, 0);
+        judge(sea + JUMP + owl(30, 0, 0) + owl(31, 5, 0) + owl(32, 1, 0), 3, 1);
+        fullPair();
         // Each of both sets has to be sound.
         judge(SHALLOW + Sentences.OWL + owl(0, 0, 0) + owl(1, 4, 0), 3, 0);
         judge(SHALLOW + Sentences.OWL + owl(0, 0, 0) + Sentences.says("owl", 30, 5, 0, 1), 3, 0);
@@ -139,6 +146,36 @@ public final class TaleSentencesTest {
         judge(sea + owl(9, 0, 0) + owl(10, 0, 0) + Sentences.book("owl", 5, 0, 9, 10), 3, 0);
         judge(sea + owl(9, 0, 0) + owl(20, 0, 0) + Sentences.book("owl", 5, 0, 9, 9), 3, 1);
         judge(SHALLOW + Sentences.OWL + owl(0, 4, 0), 3, 0);
+        ToldTracks x = Sentences.told(sea + Sentences.book("owl", 5, 3, 0, 47));
+        for (int hour = 0; hour < 48; hour++) {
+            x.add(0, hour, 0, 0, false);
+        }
+        Sentences.due("all 48 against a book", x.judge(0, 3), 0);
+        x.drop(0, 30);
+        x.add(0, 30, 5, 3, true);
+        Sentences.due("all but one against a book", x.judge(0, 3), 1);
+    }
+
+    /** As many sayings as there are hours. */
+    private static void fullPair() {
+        ToldTracks x = Sentences.told(Sentences.FLAT + Sentences.OWL);
+        for (int hour = 0; hour < 48; hour++) {
+            x.add(0, hour, hour == 20 ? 5 : 0, 0, false);
+        }
+        Sentences.due("one of 48 elsewhere", x.judge(0, 3), 1);
+        x.drop(0, 47);
+        x.add(0, 47, 5, 0, false);
+        Sentences.due("two of 48 elsewhere", x.judge(0, 3), 1);
+        x.drop(0, 21);
+        x.add(0, 21, 2, 3, false);
+        Sentences.due("one on a third place", x.judge(0, 3), 0);
+        x.drop(0, 20);
+        x.add(0, 20, 2, 3, false);
+        x.drop(0, 47);
+        Sentences.due("two on a third place, but on no more than two", x.judge(0, 3), 1);
+        x.drop(0, 20);
+        x.drop(0, 20);
+        Sentences.due("46 on one", x.judge(0, 3), 0);
     }
 
     private static void movedAndOrder() {
@@ -368,6 +405,10 @@ public final class TaleSentencesTest {
         swapped(both + Sentences.book("owl", 0, 0, 4, 4), 0);
         swapped(both + Sentences.book("slow", 5, 0, 4, 4), 0);
         swapped(both + Sentences.book("slow", 0, 0, 2, 3), 1);
+        // Five steps in five hours, no less: by the hours that they said.
+        swapped(both + Sentences.book("owl", 0, 0, 8, 8) + Sentences.book("slow", 5, 0, 8, 8), 1);
+        swapped(both + Sentences.book("owl", 0, 0, 7, 7), 0);
+        swapped(both + Sentences.book("slow", 5, 0, 7, 7), 0);
         swapped(both + owl(4, 4, 0), 0);
         swapped(both + owl(4, 1, 0) + Sentences.says("slow", 4, 4, 0, 0), 1);
         swapped(both + Sentences.book("slow", 1, 1, 20, 20) + Sentences.book("slow", 1, 0, 20, 20), 0);
@@ -441,6 +482,11 @@ public final class TaleSentencesTest {
         Sentences.due("one and two", y.lies(), 3);
         y.drop(2, 0);
         Sentences.due("one and one", y.lies(), 2);
+        ToldTracks all = Sentences.told(eight.toString());
+        Sentences.due("none of eight", all.lies(), 0);
+        all.add(7, 30, 0, 0, false);
+        all.add(7, 31, 5, 0, false);
+        Sentences.due("one of eight's last", all.lies(), 1);
         Sentences.due("all of one whose books do not fit", Sentences.told(Sentences.FLAT + Sentences.OWL + owl(30, 0, 0)
                 + owl(31, 0, 0) + Sentences.book("owl", 0, 1, 3, 3) + Sentences.book("owl", 0, 0, 3, 3)).lies(), 2);
     }
