@@ -1320,7 +1320,8 @@ public final class ToldTracks {
             }
         }
 
-        boolean isNumber(int least, int most) {
+        /** Whether a number of that range is here, which is not taken yet; anything else is a fault. */
+        boolean checkNumber(int least, int most) {
             if (kind != NUMBER) {
                 refuse(1);
                 return false;
@@ -1334,7 +1335,7 @@ public final class ToldTracks {
 
         /** The number here, or the least there may be if there is none such, which is a fault. */
         int takeNumber(int least, int most) {
-            if (!isNumber(least, most)) {
+            if (!checkNumber(least, most)) {
                 return least;
             }
             int number = value;
@@ -1342,7 +1343,8 @@ public final class ToldTracks {
             return number;
         }
 
-        boolean isName() {
+        /** Whether a word that may be a name is here, which is not taken yet; anything else is a fault. */
+        boolean checkName() {
             if (kind != WORD || word != NONE) {
                 refuse(1);
                 return false;
@@ -1414,7 +1416,7 @@ public final class ToldTracks {
         }
 
         /** Steps over the statement's word, if one more of its kind may come. */
-        private boolean isOneMore(boolean full) {
+        private boolean beginStatement(boolean full) {
             if (full) {
                 reader.refuse(5);
                 return false;
@@ -1424,7 +1426,7 @@ public final class ToldTracks {
         }
 
         private void readRule(Rules rules, boolean withSum) {
-            if (!isOneMore(rules.isFull())) {
+            if (!beginStatement(rules.isFull())) {
                 return;
             }
             int sumStart = sea.formula.count;
@@ -1445,7 +1447,7 @@ public final class ToldTracks {
         }
 
         private void readShip() {
-            if (!isOneMore(sea.shipCount >= SHIPS) || !reader.isName()) {
+            if (!beginStatement(sea.shipCount >= SHIPS) || !reader.checkName()) {
                 return;
             }
             int name = reader.value;
@@ -1465,7 +1467,7 @@ public final class ToldTracks {
 
         /** The ship that is named here; NONE with a fault. */
         private int takeShip() {
-            if (!reader.isName()) {
+            if (!reader.checkName()) {
                 return NONE;
             }
             int ship = sea.shipNamed(reader.value);
@@ -1485,11 +1487,11 @@ public final class ToldTracks {
         }
 
         private void readSaying() {
-            if (!isOneMore(sea.countSayings() >= SAYINGS)) {
+            if (!beginStatement(sea.countSayings() >= SAYINGS)) {
                 return;
             }
             int ship = takeShip();
-            if (ship == NONE || !reader.isNumber(0, HOURS - 1)) {
+            if (ship == NONE || !reader.checkNumber(0, HOURS - 1)) {
                 return;
             }
             int hour = reader.value;
@@ -1506,7 +1508,7 @@ public final class ToldTracks {
         }
 
         private void readBook() {
-            if (!isOneMore(sea.countBooks() >= BOOKS)) {
+            if (!beginStatement(sea.countBooks() >= BOOKS)) {
                 return;
             }
             int ship = takeShip();
@@ -1519,7 +1521,7 @@ public final class ToldTracks {
         }
 
         private void readSighting() {
-            if (!isOneMore(sea.sights.count >= SIGHTINGS)) {
+            if (!beginStatement(sea.sights.count >= SIGHTINGS)) {
                 return;
             }
             int look = reader.takeNumber(0, LOOKS - 1);

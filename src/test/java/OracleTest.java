@@ -8,8 +8,8 @@ import java.util.Set;
 
 /**
  * Compares ToldTracks with a slow model that follows the document's words one by one: twos are
- * tried one by one, sets of sayings by trying all of them. Seas, faults and calls are made up from
- * fixed seeds, so each run is the same.
+ * tried one by one, sets of sayings by trying all of them that could be due. Seas, faults and calls
+ * are made up from fixed seeds, so each run is the same.
  */
 public final class OracleTest {
     private static int wrong = 0;
@@ -565,6 +565,7 @@ public final class OracleTest {
                 z = fresh;
                 fault = 0;
                 place = -1;
+                wayMemo = new int[41][][];
                 changed();
                 return z.statements;
             } catch (Bad bad) {
@@ -587,10 +588,22 @@ public final class OracleTest {
             return z.depth(cell) >= v.draft;
         }
 
+        private int[][][] wayMemo = new int[41][][];
+
         int steps(Vessel v, int from, int to) {
             if (!water(v, from) || !water(v, to)) {
                 return -1;
             }
+            if (wayMemo[v.draft] == null) {
+                wayMemo[v.draft] = new int[z.columns * z.rows][];
+            }
+            if (wayMemo[v.draft][from] == null) {
+                wayMemo[v.draft][from] = ways(v, from);
+            }
+            return wayMemo[v.draft][from][to];
+        }
+
+        int[] ways(Vessel v, int from) {
             int[] dist = new int[z.columns * z.rows];
             Arrays.fill(dist, -1);
             dist[from] = 0;
@@ -612,7 +625,7 @@ public final class OracleTest {
                     }
                 }
             }
-            return dist[to];
+            return dist;
         }
 
         int far(Vessel v, int from, int to) {
@@ -719,18 +732,25 @@ public final class OracleTest {
                 return 0;
             }
             long[] friends = friends(v);
-            long ok = booksOk(v);
-            long best = 0;
-            for (long set = 1; set < 1L << v.says.size(); set++) {
-                if ((set & ~ok) != 0 || Long.bitCount(set) < Long.bitCount(best) || !close(set, friends)) {
-                    continue;
-                }
-                long differ = set ^ best;
-                if (Long.bitCount(set) > Long.bitCount(best) || (set & Long.lowestOneBit(differ)) != 0) {
-                    best = set;
-                }
+            long open = booksOk(v);
+            for (int i = 0; i < friends.length; i++) {
+                open &= (friends[i] >> i & 1) != 0 ? -1L : ~(1L << i);
             }
-            return best;
+            return grow(0, open, friends, 0);
+        }
+
+        /** Tries each set with these and others of the open ones, but none that can't be larger than the best. */
+        static long grow(long set, long open, long[] friends, long best) {
+            if (Long.bitCount(set) + Long.bitCount(open) <= Long.bitCount(best)) {
+                return best;
+            }
+            if (open == 0) {
+                return set;
+            }
+            long first = Long.lowestOneBit(open);
+            long later = open & ~first;
+            long with = grow(set | first, later & friends[Long.numberOfTrailingZeros(first)], friends, best);
+            return grow(set, later, friends, with);
         }
 
         boolean may(int s, int hour, int cell) {
@@ -827,12 +847,26 @@ public final class OracleTest {
             if ((all & ~ok) == 0 && close(all, friends)) {
                 return false;
             }
-            for (long first = 1; first < all; first++) {
-                if ((first & ~ok) == 0 && close(first, friends) && close(all & ~first, friends)) {
-                    return true;
+            for (int i = 0; i < friends.length; i++) {
+                if ((friends[i] >> i & 1) == 0) {
+                    return false;
                 }
             }
-            return false;
+            return parts(0, 0, 0, ok, friends);
+        }
+
+        /** Whether those from i on can go into the one set or the other, each with all that are there. */
+        static boolean parts(int i, long first, long second, long ok, long[] friends) {
+            if (i == friends.length) {
+                return first != 0 && second != 0;
+            }
+            long it = 1L << i;
+            if ((ok & it) != 0 && Long.bitCount(friends[i]) == friends.length) {
+                // As not all fit, the second set will not be empty for this one in the first.
+                return parts(i + 1, first | it, second, ok, friends);
+            }
+            return (ok & it) != 0 && (first & ~friends[i]) == 0 && parts(i + 1, first | it, second, ok, friends)
+                    || (second & ~friends[i]) == 0 && parts(i + 1, first, second | it, ok, friends);
         }
 
         boolean judge(int s, int kind) {
@@ -1346,11 +1380,7 @@ public final class OracleTest {
                 int row = pick(z.rows + 1) - pick(2);
                 boolean laden = pick(2) == 0;
                 boolean ok = isShip && hour >= 0 && hour < 48 && col >= 0 && col < z.columns && row >= 0
-                        && row < z.rows && !said(z.ships.get(s), hour) && z.sayings() < 96
-                        && z.ships.get(s).says.size() < 12;
-                if (!ok && isShip && z.ships.get(s).says.size() >= 12) {
-                    return;
-                }
+                        && row < z.rows && !said(z.ships.get(s), hour) && z.sayings() < 96;
                 int want = -1;
                 if (ok) {
                     Fact f = new Fact(hour, row * z.columns + col, true, laden);
@@ -1477,13 +1507,32 @@ public final class OracleTest {
         m.refusals[0]++;
     }
 
-    static boolean tooMany(Model m) {
-        for (Vessel v : m.z.ships) {
-            if (v.says.size() > 13) {
-                return true;
+    /** Many sayings of few ships or of all, most of them not far from where the ship was told to be. */
+    static void crowd(ToldTracks x, Model m) {
+        State z = m.z;
+        int ships = Math.min(z.ships.size(), 1 << pick(4));
+        boolean near = pick(2) == 0;
+        for (int k = 40 + pick(100); k > 0; k--) {
+            int s = pick(ships);
+            int hour = pick(48);
+            int column = pick(z.columns);
+            int row = pick(z.rows);
+            if (near && pick(8) > 0) {
+                column = Math.min(z.columns - 1, hour / 4 + pick(2));
+                row = Math.min(z.rows - 1, s % 3);
             }
+            Vessel v = z.ships.get(s);
+            int want = -1;
+            if (said(v, hour) || z.sayings() >= 96) {
+                m.refusals[2]++;
+            } else {
+                Fact f = new Fact(hour, row * z.columns + column, true, pick(2) == 0);
+                insert(v, f);
+                want = v.says.indexOf(f);
+                m.changed();
+            }
+            same("add", x.add(s, hour, column, row, want >= 0 && v.says.get(want).laden), want);
         }
-        return false;
     }
 
     public static void main(String[] args) {
@@ -1512,10 +1561,14 @@ public final class OracleTest {
             same("fault 0", x.fault(0), m.fault);
             same("fault 1", x.fault(1), m.place);
             good += m.fault == 0 ? 1 : 0;
-            if (m.z.columns == 0 || tooMany(m)) {
+            if (m.z.columns == 0) {
                 continue;
             }
             compareAll(x, m);
+            if (round % 4 == 0) {
+                crowd(x, m);
+                compareAll(x, m);
+            }
             for (int k = 0; k < 2; k++) {
                 for (int c = pick(8); c > 0; c--) {
                     change(x, m);
